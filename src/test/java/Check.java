@@ -64,6 +64,13 @@ final class Check {
         return x;
     }
 
+    /** The digest of these values. */
+    static long fold(long... values) {
+        long h = 1249;
+        for (long v : values) h = 31 * h + v;
+        return h;
+    }
+
     interface Call {
         long on(CrownTwo x);
     }

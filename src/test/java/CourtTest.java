@@ -43,6 +43,7 @@ public final class CourtTest {
         for (int what = 0; what < counts.length; what++) {
             CHECK.due("court(99): count(" + what + ")", x.count(what), counts[what]);
         }
+        CHECK.due("court(99): digest()", x.digest(), Check.fold(0, 0, 99, 0, 0, 0, 3, 0, -1, -1, 1, 4));
         CHECK.due("court(99): the fraction stays", x.part(1), 4);
         CHECK.due("court(99): status stays", x.status(0), 1);
         CHECK.no(x, "court(99): no pair", c -> c.lift(0));
@@ -160,6 +161,9 @@ public final class CourtTest {
         fault("court ;", 6);
         fault("cour 1;", 0);
         fault("courts 1;", 0);
+        fault("courtz 1;", 0);
+        fault("courta 1;", 0);
+        fault("xourt 1;", 0);
         fault("Court 1;", 0);
         fault("courT 1;", 0);
         fault("court\t1;", 5);
@@ -171,6 +175,8 @@ public final class CourtTest {
         fault(c + "court 1;", 8);
         fault(c + "king 1;", 8);
         fault(c + "hei", 8);
+        fault(c + "xeir 0 0;", 8);
+        fault(c + "heit 0 0;", 8);
         fault(c + "1;", 8);
         fault(c + "-", 8);
         fault(c + "heir", 12);

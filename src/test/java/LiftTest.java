@@ -146,6 +146,11 @@ public final class LiftTest {
         CHECK.asked(x, "one in two: none asked, or 60", c -> c.most(2, 0), 8);
         CHECK.asked(x, "one in two: then 0", c -> c.most(2, 1), 0);
         CHECK.asked(x, "three in four", c -> c.most(4, -1), 3);
+        // 6 more a day: what is liked may wait, what is neither must come while it is below 60.
+        CrownTwo w = Check.court("court 59;heir 0 20;heir 0 20;like 0 0;like 1 0;pair 0 1;");
+        CHECK.asked(w, "two in two", c -> c.most(2, -1), 2);
+        CHECK.asked(w, "two in two: first 1", c -> c.most(2, 0), 1);
+        CHECK.asked(w, "two in two: then 0", c -> c.most(2, 1), 0);
         // All that may be asked is DONE: none is asked.
         CrownTwo y = Check.court("court 59;heir 0 0;heir 0 0;pair 0 1;");
         for (int act = 0; act < 8; act++) y.ask(act);

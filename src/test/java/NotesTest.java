@@ -123,6 +123,10 @@ public final class NotesTest {
         CrownTwo y = Check.court("court 80;heir 0 0;like 0 6;");
         y.note(0, 6, 85, 1, 0);
         CHECK.asked(y, "sulky or tired: 1 to 1", c -> c.next(0), 0);
+        CrownTwo z = new CrownTwo();
+        z.court(20);
+        z.heir(0, 255, 0, 0);
+        CHECK.asked(z, "all alike, the first", c -> c.next(0), 0);
         CHECK.bad(y, "next(-1)", c -> c.next(-1));
         CHECK.bad(y, "next(1)", c -> c.next(1));
     }
@@ -157,6 +161,7 @@ public final class NotesTest {
         fraction(x, 3, 0, 0, 1);
         fraction(x, 3, 3, 9, 100);
         fraction(x, 3, 10, 1, 1);
+        fraction(x, 7, 2, 1, 25);
         x.slips(0, 2);
         CHECK.bad(x, "slips(-1, 5)", c -> c.slips(-1, 5));
         CHECK.bad(x, "slips(0, -1)", c -> c.slips(0, -1));
@@ -189,6 +194,14 @@ public final class NotesTest {
         CrownTwo y = Check.court("court 0;heir 0 0;heir 0 0;hate 0 4;pair 0 1;");
         CHECK.asked(y, "act 4 is the second day's", c -> c.reigns(0, 2), 1);
         CHECK.asked(y, "seven at most", c -> c.reigns(1, 60), 7);
+        // None lift at 61 nor at 60; on the third day, at 59, both do: acts 0, 4, 4 from seed 0.
+        CrownTwo z = Check.court("court 61;heir 0 0;heir 0 0;pair 0 1;");
+        CHECK.asked(z, "it cools as days go by: two days", c -> c.reigns(0, 2), 0);
+        CHECK.asked(z, "it cools as days go by: three days", c -> c.reigns(0, 3), 1);
+        // The tired ones hate all: they lift on days 0 and 7.
+        CrownTwo w = Check.court("court 61;heir 4 0;heir 4 0;hate 0 0 1 2 3 4 5 6 7;hate 1 0 1 2 3 4 5 6 7;pair 0 1;");
+        CHECK.asked(w, "on day 0", c -> c.reigns(0, 7), 1);
+        CHECK.asked(w, "on day 7", c -> c.reigns(0, 8), 2);
         CHECK.bad(y, "seed 1000000", c -> c.reigns(1000000, 1));
         CHECK.bad(y, "n -1", c -> c.reigns(0, -1));
         CHECK.bad(y, "n 61", c -> c.reigns(0, 61));

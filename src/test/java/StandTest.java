@@ -49,6 +49,7 @@ public final class StandTest {
         long second = x.digest();
         x.court(5);
         x.heir(0, 0, 0, 0);
+        x.note(0, 7, 6, 5, 0);
         CHECK.due("from(1)", x.from(1), 1);
         CHECK.due("as kept first", x.digest(), first);
         x.feed(5);
@@ -136,7 +137,7 @@ public final class StandTest {
 
     private static void digest() {
         CrownTwo x = new CrownTwo();
-        CHECK.due("new", x.digest(), fold(0, 0, 50, 0, 0, 0, 0, 0, -1, -1, 0, 1));
+        CHECK.due("new", x.digest(), Check.fold(0, 0, 50, 0, 0, 0, 0, 0, -1, -1, 0, 1));
         x.heir(1, 2, 3, 4);
         x.heir(5, 250, 251, 19);
         x.pair(1, 0);
@@ -147,22 +148,16 @@ public final class StandTest {
         x.note(1, 7, 98, 97, 0);
         x.slips(0, 10);
         // 1 and 0 less 2: from 48 on 1 less a day. Both hate act 0, so both must slip.
-        CHECK.due("pair, act, days", x.digest(), fold(
+        CHECK.due("pair, act, days", x.digest(), Check.fold(
                 2, 9, 39, 1, 2, 3, 1, 64, 1, 0,
                 1, 2, 3, 4, 5, 250, 251, 19,
                 0, 1, 2, 3, 1, 1, 7, 98, 97, 0,
                 1, 1));
         x.slips(0, 2);
-        CHECK.due("the fraction", x.digest(), fold(
+        CHECK.due("the fraction", x.digest(), Check.fold(
                 2, 9, 39, 1, 2, 3, 1, 64, 1, 0,
                 1, 2, 3, 4, 5, 250, 251, 19,
                 0, 1, 2, 3, 1, 1, 7, 98, 97, 0,
                 1, 25));
-    }
-
-    private static long fold(long... values) {
-        long h = 1249;
-        for (long v : values) h = 31 * h + v;
-        return h;
     }
 }
