@@ -1,5 +1,6 @@
 import java.util.ArrayList;
 import java.util.List;
+import java.util.function.Supplier;
 
 /** What the tests share: answers held against what is due, courts told by a text. */
 final class Check {
@@ -39,11 +40,26 @@ final class Check {
         refused(x, what, call, answer, -1);
     }
 
+    /** As refused, but on two objects made alike: all that can be seen of the one called is as of the other. */
+    void changesNothing(Supplier<CrownTwo> made, Call call, long answer, int reason) {
+        CrownTwo called = made.get(), other = made.get();
+        due("the call", call.on(called), answer);
+        for (int i = 0; i < 3; i++) {
+            due("then status(" + i + ")", called.status(i), other.status(i) + (i == reason ? 1 : 0));
+        }
+        due("all else is as it was", Courts.whole(called).equals(Courts.whole(other)) ? 1 : 0, 1);
+    }
+
+    /** What was wrong; to have looked at nothing is wrong, too. */
+    List<String> faults() {
+        return looked == 0 ? List.of("looked at nothing") : wrong;
+    }
+
     /** Ends the test's program: exit code 1 if an answer was wrong. */
     void end(String name) {
-        for (String line : wrong) System.out.println(name + ": " + line);
+        for (String line : faults()) System.out.println(name + ": " + line);
         System.out.println(name + ": " + looked + " looks, " + wrong.size() + " wrong");
-        if (!wrong.isEmpty() || looked == 0) System.exit(1);
+        if (!faults().isEmpty()) System.exit(1);
     }
 
     static void type(CrownTwo x, String text) {
