@@ -84,7 +84,7 @@ public final class CrownTwo {
 
     public int ask(int act) {
         if (outside(act, 0, ACTS - 1)) return bad();
-        if (!court.now.paired() || court.now.isDone(act)) return no();
+        if (!court.paired(court.now) || court.now.isDone(act)) return no();
         court.remember();
         return court.askIn(court.now, act);
     }
@@ -131,13 +131,13 @@ public final class CrownTwo {
 
     public int lift(int act) {
         if (outside(act, 0, ACTS - 1)) return bad();
-        if (!court.now.paired()) return no();
+        if (!court.paired(court.now)) return no();
         return court.liftersIn(court.now, act);
     }
 
     public int both(int m) {
         if (outside(m, 0, MOST_DAYS)) return bad();
-        if (!court.now.paired()) return no();
+        if (!court.paired(court.now)) return no();
         trial.become(court.now);
         court.passDays(trial, m);
         return court.actsOfBoth(trial);
@@ -159,7 +159,7 @@ public final class CrownTwo {
             bad();
             return BAD_MOST;
         }
-        if (!court.now.paired()) return no();
+        if (!court.paired(court.now)) return no();
         if (i >= n) return NOT_SO_MANY;
         mostDone = NONE;
         steps[0].become(court.now);
@@ -244,7 +244,7 @@ public final class CrownTwo {
 
     public int spite(int act) {
         if (outside(act, 0, ACTS - 1)) return bad();
-        if (!court.now.paired()) return no();
+        if (!court.paired(court.now)) return no();
         Heir one = court.heirs[court.now.first], other = court.heirs[court.now.second];
         int resting = 0;
         for (int who = 0; who <= BOTH; who++) {
@@ -258,7 +258,7 @@ public final class CrownTwo {
 
     public int slips(int act, int c) {
         if (outside(act, 0, ACTS - 1) || outside(c, 0, ODDS)) return bad();
-        if (!court.now.paired()) return no();
+        if (!court.paired(court.now)) return no();
         int who = court.liftersIn(court.now, act);
         int one = (who & 1) != 0 ? ODDS - c : c;
         int other = (who & 2) != 0 ? ODDS - c : c;
@@ -268,7 +268,7 @@ public final class CrownTwo {
 
     public int reigns(int seed, int n) {
         if (outside(seed, 0, MOST_SEED) || outside(n, 0, MOST_DAYS)) return bad();
-        if (!court.now.paired()) return no();
+        if (!court.paired(court.now)) return no();
         trial.become(court.now);
         long x = seed;
         for (int day = 0; day < n; day++) {
@@ -486,6 +486,7 @@ public final class CrownTwo {
         boolean lifts(boolean liked, boolean hated, int warmth, int date) {
             return super.lifts(liked, hated, warmth, date) && warmth < 80;
         }
+
         int adds(int temper) {
             return super.adds(temper) + 1;
         }
@@ -507,6 +508,7 @@ public final class CrownTwo {
         boolean lifts(boolean liked, boolean hated, int warmth, int date) {
             return super.lifts(liked, hated, warmth, date) || date % 7 == 0;
         }
+
         int adds(int temper) {
             return super.adds(temper) / 2;
         }
@@ -516,6 +518,7 @@ public final class CrownTwo {
         boolean lifts(boolean liked, boolean hated, int warmth, int date) {
             return super.lifts(liked, hated, warmth, date) || warmth < 30;
         }
+
         int adds(int temper) {
             return 2 * super.adds(temper);
         }
@@ -610,10 +613,6 @@ public final class CrownTwo {
             return warmth < FRIENDS_BELOW;
         }
 
-        boolean paired() {
-            return first != NONE;
-        }
-
         boolean isDone(int act) {
             return (done & 1 << act) != 0;
         }
@@ -667,6 +666,10 @@ public final class CrownTwo {
             return has(p) && has(q) && p != q;
         }
 
+        boolean paired(Moment moment) {
+            return hasTwo(moment.first, moment.second);
+        }
+
         int admit(int kind, int likes, int hates, int temper) {
             if (heirCount >= MOST_HEIRS) return FULL;
             heirs[heirCount].put(kind, likes, hates, temper);
@@ -702,7 +705,7 @@ public final class CrownTwo {
         }
 
         int changeInADay(Moment moment) {
-            return moment.paired() ? changeBy(moment.first, moment.second) : -COOLING;
+            return paired(moment) ? changeBy(moment.first, moment.second) : -COOLING;
         }
 
         void passDays(Moment moment, int days) {
@@ -781,7 +784,6 @@ public final class CrownTwo {
 
         /** How many items were read; NONE: the token at the place can not stand there. */
         int parseInto(Court into) {
-            into.begin(FIRST_WARMTH);
             behind = 0;
             advance();
             if (!courtItem(into)) return NONE;

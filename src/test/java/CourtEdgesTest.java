@@ -86,6 +86,14 @@ public final class CourtEdgesTest {
             return x;
         };
         EDGES.no(2, "all else as at first: no PAIR", told, x -> x.lift(0));
+        EDGES.edge(2, "all else as at first: the digest of a court that had a PAIR", c -> {
+            CrownTwo x = Courts.plainPair(20);
+            x.ask(1);
+            x.day(2);
+            x.note(1, 1, 1, 1, 1);
+            x.court(7);
+            c.due("digest()", x.digest(), Check.fold(0, 0, 7, 0, 0, 0, 0, 0, -1, -1, 0, 1));
+        });
         EDGES.no(2, "all else as at first: none may be undone", told, x -> x.undo());
         EDGES.bad(2, "all else as at first: HEIR 0 is gone", told, x -> x.of(0, 0));
         EDGES.edge(2, "all else as at first: an HEIR that comes then likes, hates and has NOTES as a new one", c -> {

@@ -225,6 +225,22 @@ public final class LiftEdgesTest {
             x.pair(0, 1);
             return x;
         }, 1, 0, 2, 2);
+        // At 60 the first alone lifts for act 0: 65, so 63; for act 1 none does: 61, so 59 on the next day.
+        way("asked in vain by none, where by one it would cost one", () -> {
+            CrownTwo x = new CrownTwo();
+            x.court(60);
+            x.heir(0, 1, 0, 0);
+            x.heir(0, 0, 0, 0);
+            x.pair(0, 1);
+            return x;
+        }, 1, 0, 1, 2);
+        EDGES.edge(18, "asked for twice: the later one knows nothing of the first", c -> {
+            CrownTwo x = Courts.plainPair(40);
+            c.due("most(4, -1) at 40", x.most(4, -1), 4);
+            for (int i = 0; i < 3; i++) x.feed(20);
+            c.due("most(4, -1) at 99", x.most(4, -1), 0);
+            c.due("most(4, 3) at 99", x.most(4, 3), 0);
+        });
         way("DONE ones are left out", () -> {
             CrownTwo x = Courts.plainPair(40);
             x.ask(0);

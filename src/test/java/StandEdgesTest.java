@@ -190,6 +190,7 @@ public final class StandEdgesTest {
             for (int i = 0; i < 9; i++) x.day(1);
             x.image(0);
             x.court(3);
+            for (int i = 0; i < 8; i++) x.feed(1);
             x.from(0);
             c.due("may be undone", x.count(5), 8);
             for (int day = 8; day >= 1; day--) c.due("undo", x.undo(), day);

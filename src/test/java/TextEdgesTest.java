@@ -35,6 +35,9 @@ public final class TextEdgesTest {
         fault("a word that is none, begun as one", "court 1;^heirs 0 0;");
         fault("a word that is none, begun as one", "^cour 1;");
         fault("a word that is none, begun as one", "^courts 1;");
+        fault("a word that is none, begun as one: the last letter", "^courtz 1;");
+        fault("a word that is none, begun as one: the first letter", "^courta 1;");
+        fault("a word that is none, ended as one", "^zcourt 1;");
         fault("a word that is none, of the same length", "^courx 1;");
         fault("a word that is none, of the same length", "^xourt 1;");
         fault("a word that is none, of the same length", TWO + "^lika 0;");
@@ -243,6 +246,12 @@ public final class TextEdgesTest {
             Check.read(x, TWO);
             c.due("lift(0)", x.lift(0), CrownTwo.NO);
             c.due("of(0, 4)", x.of(0, 4), 0);
+        });
+        EDGES.edge(6, "pair not told behind a TEXT that told one: none", c -> {
+            CrownTwo x = new CrownTwo();
+            Check.read(x, TWO + "pair 1 0;");
+            Check.read(x, "court 4;");
+            c.due("digest()", x.digest(), Check.fold(0, 0, 4, 0, 0, 0, 8, 0, -1, -1, 0, 1));
         });
     }
 
