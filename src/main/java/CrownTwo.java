@@ -163,7 +163,7 @@ public final class CrownTwo {
         if (i >= n) return NOT_SO_MANY;
         mostDone = NONE;
         steps[0].become(court.now);
-        tryFrom(0, n, 0);
+        tryFrom(0, n, 0, court.changeInADay(court.now));
         return i == NONE ? mostDone : bestWay[i];
     }
 
@@ -404,7 +404,7 @@ public final class CrownTwo {
     }
 
     /** Goes through the ways from this step on in their order, and keeps the first that has more than all before. */
-    private void tryFrom(int step, int days, int had) {
+    private void tryFrom(int step, int days, int had, int change) {
         if (had + days - step <= mostDone) return;
         if (step >= days || step >= MOST_PLANNED) {
             mostDone = had;
@@ -422,8 +422,8 @@ public final class CrownTwo {
             if ((failuresTried & failure) != 0) continue;
             failuresTried |= failure;
             way[step] = act;
-            court.passDays(after, 1);
-            tryFrom(step + 1, days, who == BOTH ? had + 1 : had);
+            after.pass(1, change);
+            tryFrom(step + 1, days, who == BOTH ? had + 1 : had, change);
         }
     }
 
@@ -609,6 +609,11 @@ public final class CrownTwo {
             warmth = Math.max(0, Math.min(MOST_WARMTH, warmth + more));
         }
 
+        void pass(int days, int change) {
+            for (int i = 0; i < days; i++) warm(change);
+            date += days;
+        }
+
         boolean friendly() {
             return warmth < FRIENDS_BELOW;
         }
@@ -709,9 +714,7 @@ public final class CrownTwo {
         }
 
         void passDays(Moment moment, int days) {
-            int change = changeInADay(moment);
-            for (int i = 0; i < days; i++) moment.warm(change);
-            moment.date += days;
+            moment.pass(days, changeInADay(moment));
         }
 
         boolean lifts(int p, int kind, int act, int warmth, int date) {
